@@ -22,6 +22,7 @@ public final class PromisesTest {
         promise14();
         promise15();
         promise16();
+        promise16OfFour();
         refusedCallsChangeNothing();
         questionsChangeNothing();
         System.out.println(wrong == 0 ? "all answers are as due" : wrong + " answers are not as due");
@@ -439,7 +440,9 @@ public final class PromisesTest {
         due(16, "closed(1, 1)", three.closed(1, 1), -1);
         due(16, "closed(3, 1)", three.closed(3, 1), -1);
         due(16, "closed(1, least)", three.closed(1, LEAST), -1);
+    }
 
+    private static void promise16OfFour() {
         // What is dropped of one pair drops more of the next: the chain goes through all four.
         IntervalDesk chain = new IntervalDesk(4);
         chain.limit(0, 1, setOf(0));
@@ -448,6 +451,16 @@ public final class PromisesTest {
         due(16, "closed(3, 0)", chain.closed(3, 0), setOf(12));
         chain.limit(1, 3, 0);
         due(16, "closed(0, 2) with an empty set elsewhere", chain.closed(0, 2), 0);
+
+        // 3 is in 1 and after 2, so 1 can't end with 2 and begins where 2 ends; only then is 0 known to be before 1.
+        IntervalDesk twice = new IntervalDesk(4);
+        twice.limit(0, 2, setOf(3));
+        twice.limit(1, 2, setOf(7, 11));
+        twice.limit(1, 3, setOf(8));
+        twice.limit(2, 3, setOf(0));
+        due(16, "closed(1, 2)", twice.closed(1, 2), setOf(11));
+        due(16, "closed(0, 1)", twice.closed(0, 1), setOf(0));
+        due(16, "closed(1, 0)", twice.closed(1, 0), setOf(12));
 
         // Closing may leave what no scenario has. 0 lies in 2, and so in 1; or 0 begins where 2 ends, then 3 can't
         // begin with 0 but begins inside it and ends after it, in 1, so that 0 lies in 1 too.

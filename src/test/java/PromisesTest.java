@@ -1,4 +1,4 @@
-/** For each promise ordinary calls, the edges that the document names, and wrong calls; the answers are made by hand. */
+/** For each promise ordinary calls, the edges that the document names, and wrong calls; answers made by hand. */
 public final class PromisesTest {
     private static final int ALL = 8191;
     private static final int LEAST = Integer.MIN_VALUE;
@@ -471,7 +471,8 @@ public final class PromisesTest {
         desk.limit(1, 3, setOf(8));
         desk.limit(2, 3, setOf(0, 8));
         due(16, "closed(0, 1)", desk.closed(0, 1), setOf(4, 5, 10));
-        due(16, "possible(0, 1)", desk.possible(0, 1), setOf(4));
+        due(8, "possible(0, 1)", desk.possible(0, 1), setOf(4));
+        due(9, "follows(0, 1, {4})", desk.follows(0, 1, setOf(4)), 1);
     }
 
     private static void refusedCallsChangeNothing() {
